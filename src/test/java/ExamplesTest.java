@@ -1,0 +1,40 @@
+/** The document's four examples, each call with the answer that stands behind it. */
+public final class ExamplesTest {
+    private static final String[] EXAMPLES = {
+        "letter(102) = 1; letter(97) = 2; letter(97) = 3; letter(97) = 4; letter(97) = 5; letter(98) = 6; "
+            + "letter(98) = 7; letter(98) = 8; letter(98) = 9; letter(49) = 10; letter(50) = 11; letter(48) = 12; "
+            + "letter(48) = 13; code() = 0; feed(0) = 1; feed(4) = 2",
+        "letter(112) = 1; letter(51) = 2; letter(97) = 3; letter(57) = 4; fault() = 3; blank() = 4; letter(48) = 1; "
+            + "letter(53) = 2; letter(55) = 3; feeds() = 3; cuts(0) = -103; judged() = -1; open(2) = 3; "
+            + "feed(8) = -102; feed(1) = 1; feed(1) = 2",
+        "letter(120) = 1; fault() = 0; code() = -103; drop() = -103; rank(0) = -101; count(2) = 40; cuts(0) = 0; "
+            + "cuts(1) = 0; piece(0, 0) = -101; back() = -103; feed(3) = 1; cuts(1) = -103; apart(0, 0) = -101; "
+            + "about(0, 0) = -101; open(41) = -102; digest() = 1501255237244541744",
+        "letter(102) = 1; letter(97) = 2; letter(97) = 3; letter(98) = 4; letter(98) = 5; letter(33) = 6; "
+            + "letter(33) = 7; letter(97) = 8; letter(97) = 9; fault() = 9; letter(48) = 10; letter(48) = 11; "
+            + "letter(57) = 12; letter(57) = 13; code() = 0; rows(0, 2) = 36",
+    };
+
+    public static void main(String[] args) {
+        Check check = new Check("ExamplesTest");
+        for (int i = 0; i < EXAMPLES.length; i++) {
+            CodeJudge judge = new CodeJudge();
+            for (String row : EXAMPLES[i].split("; ")) {
+                String[] sides = row.split(" = ");
+                check.due("example " + (i + 1) + ": " + sides[0], answer(judge, sides[0]), Long.parseLong(sides[1]));
+            }
+        }
+        check.end();
+    }
+
+    private static long answer(CodeJudge judge, String call) {
+        int bracket = call.indexOf('(');
+        String inside = call.substring(bracket + 1, call.length() - 1);
+        String[] words = inside.isEmpty() ? new String[0] : inside.split(", ");
+        int[] numbers = new int[words.length];
+        for (int i = 0; i < words.length; i++) {
+            numbers[i] = Integer.parseInt(words[i]);
+        }
+        return Calls.answer(judge, call.substring(0, bracket), numbers);
+    }
+}
