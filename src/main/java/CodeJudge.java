@@ -20,7 +20,7 @@ public final class CodeJudge {
     private static final int SORT_PAIRS = 4;
     private static final int FLAT = 0, PAIRED = 1, COUNTED = 2, TURNED = 3;
 
-    /** A mode is what a code still remembers beside its last sign: in REST no sign is open and nothing is turned over. */
+    /** A mode is what a code remembers beside its last sign; in REST no sign is open and nothing turned over. */
     private static final int REST = 0, MODES = 5;
     private static final int SECOND_DUE = 1;
     private static final int ONE_MORE_A = 1, ONE_MORE_B = 2, TWO_MORE_A = 3, TWO_MORE_B = 4;
@@ -819,8 +819,8 @@ public final class CodeJudge {
      * step, so that a single walk answers for every beginning of the stream.
      */
     private static final class Outlook {
-        /** No row is valid in both codes. */
-        private static final int NEVER = Integer.MIN_VALUE;
+        /** No row is valid in both codes; far below every lead, which is at most 39 * 9 either way. */
+        private static final int NEVER = -1000000;
 
         /** For each two states, by how much the rival can gain more than the own code, both being valid at the end. */
         private final int[] leads = new int[STATES * STATES];
@@ -991,7 +991,7 @@ public final class CodeJudge {
         }
     }
 
-    /** The best division, built from the last unit to the first: each entry holds the best one of the units from there on. */
+    /** The best division, built from the last unit to the first: an entry is the best one of the units from it on. */
     private static final class Division {
         private static final int NO_DIVISION = -1;
 
