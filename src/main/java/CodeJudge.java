@@ -668,7 +668,7 @@ public final class CodeJudge {
         }
 
         private int moveIn(int mode, int unit) {
-            if (mode < 0 || mode >= MODES || !isUnit(unit)) {
+            if (mode < 0 || mode >= MODES || unit < 0 || unit >= UNITS) {
                 return DEAD;
             }
             return moves[mode * UNITS + unit];
@@ -685,14 +685,14 @@ public final class CodeJudge {
         }
 
         int nextState(int state, int unit) {
-            if (state < 0 || state >= STATES || !isUnit(unit)) {
+            if (state < 0 || state >= STATES || unit < 0 || unit >= UNITS) {
                 return DEAD;
             }
             return nexts[state * UNITS + unit];
         }
 
         int gain(int state, int unit) {
-            if (state < 0 || state >= STATES || !isUnit(unit)) {
+            if (state < 0 || state >= STATES || unit < 0 || unit >= UNITS) {
                 return 0;
             }
             return gains[state * UNITS + unit];

@@ -112,11 +112,7 @@ public final class AgainstPlainTest {
         if (check.wrong() >= 20) {
             return;
         }
-        StringBuilder told = new StringBuilder(method).append('(');
-        for (int i = 0; i < numbers.length; i++) {
-            told.append(i == 0 ? "" : ", ").append(numbers[i]);
-        }
-        told.append(')');
+        String told = Script.told(method, numbers);
         long due = plain.answer(method, numbers);
         long got = Calls.answer(judge, method, numbers);
         boolean sure = method.equals("about") && numbers[1] == 6 && due != PlainJudge.UNKNOWN;

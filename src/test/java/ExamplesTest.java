@@ -18,23 +18,8 @@ public final class ExamplesTest {
     public static void main(String[] args) {
         Check check = new Check("ExamplesTest");
         for (int i = 0; i < EXAMPLES.length; i++) {
-            CodeJudge judge = new CodeJudge();
-            for (String row : EXAMPLES[i].split("; ")) {
-                String[] sides = row.split(" = ");
-                check.due("example " + (i + 1) + ": " + sides[0], answer(judge, sides[0]), Long.parseLong(sides[1]));
-            }
+            Script.play(check, "example " + (i + 1), EXAMPLES[i]);
         }
         check.end();
-    }
-
-    private static long answer(CodeJudge judge, String call) {
-        int bracket = call.indexOf('(');
-        String inside = call.substring(bracket + 1, call.length() - 1);
-        String[] words = inside.isEmpty() ? new String[0] : inside.split(", ");
-        int[] numbers = new int[words.length];
-        for (int i = 0; i < words.length; i++) {
-            numbers[i] = Integer.parseInt(words[i]);
-        }
-        return Calls.answer(judge, call.substring(0, bracket), numbers);
     }
 }

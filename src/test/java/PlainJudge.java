@@ -602,6 +602,17 @@ final class PlainJudge {
         return h;
     }
 
+    private long digest() {
+        int[] sure = new int[codes.size()];
+        for (int code = 0; code < sure.length; code++) {
+            sure[code] = firstSure(code);
+            if (sure[code] == TOO_MANY) {
+                return TOO_MANY;
+            }
+        }
+        return digest(sure);
+    }
+
     int codeCount() {
         return codes.size();
     }
@@ -630,6 +641,7 @@ final class PlainJudge {
             case "cuts": return cuts(n[0]);
             case "piece": return piece(n[0], n[1]);
             case "count": return count(n[0]);
+            case "digest": return digest();
             default: throw new IllegalArgumentException(method);
         }
     }

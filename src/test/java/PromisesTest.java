@@ -661,59 +661,15 @@ public final class PromisesTest {
     }
 
     private void promise24() {
-        due("24: new", new CodeJudge().digest(), listed(new CodeJudge()));
+        due("24: new", new CodeJudge().digest(), Listed.digest(new CodeJudge(), ""));
         CodeJudge judge = fed("0404411", FLAT, PAIRED, COUNTED, TURNED);
         Check.type(judge, "page");
-        due("24: four codes", judge.digest(), listed(judge));
-        due("24: the same again", judge.digest(), listed(judge));
+        due("24: four codes", judge.digest(), Listed.digest(judge, "page"));
+        due("24: the same again", judge.digest(), Listed.digest(judge, "page"));
         CodeJudge none = fed("12", NOTHING_ALLOWED);
-        due("24: no division", none.digest(), listed(none));
+        due("24: no division", none.digest(), Listed.digest(none, ""));
         CodeJudge pieces = fed("0044", "faaaa!!!!9000", "f!!!!aaaa9000");
-        due("24: two pieces", pieces.digest(), listed(pieces));
-    }
-
-    /** The digest's list as the other calls answer it. */
-    private static long listed(CodeJudge judge) {
-        long h = 1511;
-        for (int code = 0; code < judge.count(0); code++) {
-            for (int place = 0; judge.ink(code, place) != UNKNOWN; place++) {
-                h = 31 * h + judge.ink(code, place);
-            }
-            for (int what = 0; what <= 7; what++) {
-                h = 31 * h + judge.about(code, what);
-            }
-            for (int sorts = 0; sorts <= 3; sorts++) {
-                h = 31 * h + judge.pairs(code, sorts);
-            }
-            h = 31 * h + judge.rows(code, 5);
-            for (int other = 0; other < judge.count(0); other++) {
-                h = 31 * h + judge.apart(code, other);
-            }
-        }
-        for (int place = 0; place < judge.count(1); place++) {
-            h = 31 * h + judge.unit(place);
-        }
-        h = 31 * h + judge.judged();
-        if (judge.cuts(0) != STATE) {
-            h = 31 * (31 * h + judge.cuts(0)) + judge.cuts(1);
-            for (int i = 0; i < 3 * judge.cuts(1); i++) {
-                h = 31 * h + judge.piece(i / 3, i % 3);
-            }
-        }
-        return listedEnd(h, judge);
-    }
-
-    /** The page can only be told by what it does, so the tests here know it. */
-    private static long listedEnd(long begun, CodeJudge judge) {
-        long h = begun;
-        String page = judge.count(5) == 0 ? "" : "page";
-        for (int i = 0; i < page.length(); i++) {
-            h = 31 * h + page.charAt(i);
-        }
-        for (int what = 0; what <= 7; what++) {
-            h = 31 * h + judge.count(what);
-        }
-        return h;
+        due("24: two pieces", pieces.digest(), Listed.digest(pieces, ""));
     }
 
     private void errorsChangeNothing() {
