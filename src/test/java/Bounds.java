@@ -29,13 +29,13 @@ final class Bounds {
         sentence = section + ", \"" + quote + "\"";
         quotes.get(section).add(plain(quote));
         for (String run : runs) {
-            Script.play(check, sentence, run);
+            run(run);
         }
     }
 
     /** One more run for the sentence that was said last. */
     void run(String run) {
-        Script.play(check, sentence, run);
+        Script.play(check, sentence + " [" + run + "]", run);
     }
 
     void due(String call, long got, long want) {

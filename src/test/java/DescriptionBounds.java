@@ -31,7 +31,8 @@ final class DescriptionBounds {
     private void whatItIs() {
         bounds.says("Encoding detection: several candidate codes read the same stream of units, and a judge tells which of"
             + " them the stream most probably is written in.",
-            "load fa!!!!!!!1000; load f!a!!!!!!1000; judged() = 0; feed(1) = 1; judged() = 1; back() = 0; feed(0) = 1; judged() = 0");
+            "load fa!!!!!!!1000; load f!a!!!!!!1000; judged() = 0; feed(1) = 1; judged() = 1; back() = 0; feed(0) = 1; "
+            + "judged() = 0");
         bounds.says("An object is used for at most 512 calls after it has been made");
         CodeJudge judge = new CodeJudge();
         for (int call = 1; call <= 510; call += 2) {
@@ -82,7 +83,8 @@ final class DescriptionBounds {
     }
 
     private void marks() {
-        bounds.says("The marks are given for the units 0 to 7, in this order: \"a\" (sort A), \"b\" (sort B) and \"!\" (forbidden:"
+        bounds.says("The marks are given for the units 0 to 7, in this order: \"a\" (sort A), \"b\" (sort B) and \"!\" "
+            + "(forbidden:"
             + " where a sign would get its sort from a unit with this mark, the unit is not allowed).",
             "load fab!!!!!!1248; units 01; pairs(0, *) = 0 1 0 0; feed(2) = 3; about(0, 1) = 0; about(0, 5) = 2");
         for (int marked = 0; marked < 8; marked++) {
@@ -137,12 +139,14 @@ final class DescriptionBounds {
         bounds.says("At the beginning of a sign, a unit less than q is a sign; its sort is that of its mark.",
             "load p1ab!!!!!!1248; feed(0) = 1; about(0, *) = 1 1 1 1 0 NONE 0 0; feed(1) = 2; about(0, *) = 1 1 0 1 0 NONE 0 0",
             "load p7aaaaaaab1248; feed(6) = 1; about(0, 2) = 1; about(0, 3) = 1; feed(7) = 2; about(0, 2) = 0; about(0, 3) = 1",
-            "load p4aabb!!!!1248; units 0123; about(0, 3) = 4; pairs(0, *) = 1 1 0 1; feed(4) = 5; about(0, 2) = 0; about(0, 3) = 4",
+            "load p4aabb!!!!1248; units 0123; about(0, 3) = 4; pairs(0, *) = 1 1 0 1; feed(4) = 5; about(0, 2) = 0; "
+            + "about(0, 3) = 4",
             "load p4aa!baaaa1248; units 02; about(0, 1) = 0; about(0, 3) = 1; about(0, 5) = 1");
         String mixed = "load p4a!!b!ab!1248; ";
         String highA = "load p4bbbbaaaa1248; ";
         String ends = "load p4!aaaaaa!1248; ";
-        bounds.says("Any other unit begins a sign, whatever its mark, and the next unit, whatever its number, ends this sign, which"
+        bounds.says("Any other unit begins a sign, whatever its mark, and the next unit, whatever its number, ends this sign, "
+            + "which"
             + " has the sort of the mark of that next unit.",
             mixed + "feed(4) = 1; about(0, *) = 1 1 0 0 0 NONE 0 0; feed(0) = 2; about(0, *) = 1 1 1 1 0 NONE 0 0",
             mixed + "units 4043; pairs(0, *) = 0 1 0 0", mixed + "units 50607040; about(0, 3) = 4; pairs(0, *) = 3 0 0 0",
@@ -165,7 +169,8 @@ final class DescriptionBounds {
             COUNTED + "feed(2) = 1; about(0, 2) = 0; about(0, 3) = 0; feed(6) = 2; about(0, 2) = 1; about(0, 3) = 1; "
             + "feed(3) = 3; about(0, 2) = 0; about(0, 3) = 1; feed(6) = 4; about(0, 2) = 1; pairs(0, *) = 0 1 0 0");
         bounds.says("with e or f it begins a sign of sort A or B that wants two more;",
-            COUNTED + "feed(4) = 1; about(0, 2) = 0; feed(6) = 2; about(0, 2) = 0; about(0, 3) = 0; feed(6) = 3; about(0, 2) = 1; "
+            COUNTED + "feed(4) = 1; about(0, 2) = 0; feed(6) = 2; about(0, 2) = 0; about(0, 3) = 0; feed(6) = 3; "
+            + "about(0, 2) = 1; "
             + "about(0, 3) = 1; units 56; about(0, 2) = 0; about(0, 3) = 1; feed(6) = 6; about(0, 2) = 1; pairs(0, *) = 0 1 0 0");
         bounds.says("\"+\" and \"!\" are not allowed.", COUNTED + "feed(6) = 1; about(0, 1) = 0; about(0, 5) = 0",
             COUNTED + "feed(7) = 1; about(0, 1) = 0; about(0, 5) = 0", COUNTED + "units 06; about(0, 5) = 1",
@@ -192,8 +197,10 @@ final class DescriptionBounds {
     }
 
     private void turned() {
-        bounds.says("3 turned: it has a digit q from 0 to 7, and twice eight marks:", "load t0" + SIXTEEN + "0000; about(0, 0) = 3",
-            "load t7" + SIXTEEN + "0000", "page t/; fault() = 1", "page t8; fault() = 1", "page t0; fault() = 2", "page t7; fault() = 2",
+        bounds.says("3 turned: it has a digit q from 0 to 7, and twice eight marks:", "load t0" + SIXTEEN + "0000; "
+            + "about(0, 0) = 3",
+            "load t7" + SIXTEEN + "0000", "page t/; fault() = 1", "page t8; fault() = 1", "page t0; fault() = 2",
+            "page t7; fault() = 2",
             "page t8" + SIXTEEN + "0000; code() = STATE", "page t/" + SIXTEEN + "0000; code() = STATE",
             "page t0aaaaaaaa0; fault() = 10", "page t0aaaaaaaaaaaaaaa0; fault() = 17", "page t0" + SIXTEEN + "a; fault() = 18",
             "page t0aaaaaaaaaaaaaaa0000; code() = STATE", "page t0" + SIXTEEN + "a0000; code() = STATE");
@@ -203,7 +210,8 @@ final class DescriptionBounds {
             "load t7a!!!!!!!!a!!!!!!0000; units 70; about(0, 5) = 1");
         String ahead = "load t7a!!!!!!!!b!!!!!!1248; ";
         bounds.says("At the beginning the code is not turned over.", ahead + "feed(0) = 1; about(0, 2) = 1",
-            ahead + "feed(1) = 1; about(0, 5) = 0", ahead + "about(0, 2) = 1; feed(7) = 1; about(0, 2) = 0; open(5) = 1; about(0, 2) = 1; "
+            ahead + "feed(1) = 1; about(0, 5) = 0", ahead + "about(0, 2) = 1; feed(7) = 1; about(0, 2) = 0; open(5) = 1; "
+            + "about(0, 2) = 1; "
             + "feed(0) = 1; about(0, 2) = 1", ahead + "feed(7) = 1; back() = 0; feed(0) = 1; about(0, 2) = 1");
         bounds.says("The unit q, whatever its mark, turns the code over, or back again; it is no sign, and is ignored when signs"
             + " follow each other.");
@@ -214,7 +222,8 @@ final class DescriptionBounds {
             bounds.run(first + "units 10010; about(0, 3) = 2; pairs(0, *) = 1 0 0 0; units 10; about(0, 3) = 3; about(0, 2) = 1; "
                 + "pairs(0, *) = 1 1 0 0; units 2; pairs(0, *) = 1 1 0 1");
             String last = "load t7aaaaaab" + mark + "bbbbbba" + mark + "1248; ";
-            bounds.run(last + "feed(7) = 1; about(0, 1) = 1; about(0, 2) = 0; about(0, 3) = 0; units 6; about(0, 3) = 1; feed(7) = 3; "
+            bounds.run(last + "feed(7) = 1; about(0, 1) = 1; about(0, 2) = 0; about(0, 3) = 0; units 6; about(0, 3) = 1; "
+            + "feed(7) = 3; "
                 + "about(0, 2) = 1; about(0, 3) = 1; feed(6) = 4; pairs(0, *) = 0 1 0 0");
         }
     }
@@ -235,16 +244,19 @@ final class DescriptionBounds {
     private void turnedMark(String load, String units, char mark) {
         int alive = mark == '!' ? 0 : 1;
         String pairs = mark == 'a' ? "1 0 0 0" : mark == 'b' ? "0 0 1 0" : "0 0 0 0";
-        bounds.run(load + "units " + units + "0; about(0, 1) = " + alive + "; about(0, 3) = " + 2 * alive + "; pairs(0, *) = " + pairs);
+        bounds.run(load + "units " + units + "0; about(0, 1) = " + alive + "; about(0, 3) = " + 2 * alive + "; pairs(0, *) = "
+            + pairs);
     }
 
     private void validRows() {
-        bounds.says("A row of units is valid in a code if each unit is allowed, no sign is begun but not ended at its end, and the"
+        bounds.says("A row of units is valid in a code if each unit is allowed, no sign is begun but not ended at its end, and "
+            + "the"
             + " code is not turned over at its end.",
             "load fa!aaaaaa0000; units 0; about(0, 2) = 1; units 1; about(0, 2) = 0; units 0; about(0, 2) = 0; rows(0, 1) = 7",
             "load p7aaaaaaaa0000; feed(7) = 1; about(0, 2) = 0; feed(7) = 2; about(0, 2) = 1; rows(0, 1) = 7",
             COUNTED + "feed(4) = 1; about(0, 2) = 0; feed(6) = 2; about(0, 2) = 0; feed(6) = 3; about(0, 2) = 1; rows(0, 1) = 2",
-            "load t0" + SIXTEEN + "0000; feed(0) = 1; about(0, 2) = 0; feed(1) = 2; about(0, 2) = 0; feed(0) = 3; about(0, 2) = 1; "
+            "load t0" + SIXTEEN + "0000; feed(0) = 1; about(0, 2) = 0; feed(1) = 2; about(0, 2) = 0; feed(0) = 3; "
+            + "about(0, 2) = 1; "
             + "rows(0, 1) = 7");
         bounds.says("(The empty row is valid.)");
         for (String text : new String[] {"f!!!!!!!!0000", "p1!!!!!!!!0000", "c!!!!!!!!0000", "t0!!!!!!!!!!!!!!!!0000"}) {
@@ -256,9 +268,11 @@ final class DescriptionBounds {
     }
 
     private void texts() {
-        bounds.says("The text of a code is the letter of its kind (\"f\" flat, \"p\" paired, \"c\" counted, \"t\" turned), its digit (only"
+        bounds.says("The text of a code is the letter of its kind (\"f\" flat, \"p\" paired, \"c\" counted, \"t\" turned), its "
+            + "digit (only"
             + " paired and turned), its marks, and the four points as digits.",
-            "page f1; fault() = 1", "page c1; fault() = 1", "page pa; fault() = 1", "page ta; fault() = 1", "page p11; fault() = 2",
+            "page f1; fault() = 1", "page c1; fault() = 1", "page pa; fault() = 1", "page ta; fault() = 1",
+            "page p11; fault() = 2",
             "page t11; fault() = 2", "page paaaaaaaa0000; code() = STATE", "page taaaaaaaaaaaaaaaa0000; code() = STATE",
             "page f1aaaaaaaa0000; code() = STATE", "page c1aaaaaaaa0000; code() = STATE");
         String[] texts = {"faaaaaaaa0000", "p1aaaaaaaa0000", "caaaaaaaa0000", "t1" + SIXTEEN + "0000"};
@@ -280,28 +294,36 @@ final class DescriptionBounds {
     private void codesAndStream() {
         String four = "load faaaaaaaa0000; load p1aaaaaaaa0000; load caaaaaaaa0000; load t1" + SIXTEEN + "0000; ";
         bounds.says("There are at most four codes, numbered from 0.", "about(0, 0) = UNKNOWN; about(-1, 0) = UNKNOWN",
-            four + "about(-1, 0) = UNKNOWN; about(0, 0) = 0; about(1, 0) = 1; about(2, 0) = 2; about(3, 0) = 3; about(4, 0) = UNKNOWN; "
+            four + "about(-1, 0) = UNKNOWN; about(0, 0) = 0; about(1, 0) = 1; about(2, 0) = 2; about(3, 0) = 3; "
+            + "about(4, 0) = UNKNOWN; "
             + "count(0) = 4; page faaaaaaaa0000; code() = FULL; count(0) = 4; drop() = 3; code() = 3; about(3, 0) = 0");
-        bounds.says("The stream has a length from 1 to 40 (at first 40), and the units that have come so far, at most as many as the"
+        bounds.says("The stream has a length from 1 to 40 (at first 40), and the units that have come so far, at most as many "
+            + "as the"
             + " length.", "count(2) = 40; units " + "0".repeat(39) + "; feed(1) = 40; feed(1) = FULL; count(1) = 40",
             "open(0) = OUTSIDE; count(2) = 40; open(1) = 0; count(2) = 1; feed(0) = 1; feed(0) = FULL; count(1) = 1",
-            "open(41) = OUTSIDE; open(39) = 0; units " + "0".repeat(39) + "; feed(0) = FULL; open(40) = 39; units " + "0".repeat(40)
+            "open(41) = OUTSIDE; open(39) = 0; units " + "0".repeat(39) + "; feed(0) = FULL; open(40) = 39; units "
+            + "0".repeat(40)
             + "; feed(0) = FULL");
         bounds.says("All codes read all these units, from the first one on, also codes that are added later.",
             "units 00; load faaaaaaaa1000; about(0, 3) = 2; about(0, 4) = 1; feed(0) = 3; load faaaaaaaa2000; about(0, 4) = 2; "
-            + "about(1, 3) = 3; about(1, 4) = 4", "units " + "0".repeat(40) + "; load faaaaaaaa9000; about(0, 3) = 40; about(0, 4) = 351",
+            + "about(1, 3) = 3; about(1, 4) = 4", "units " + "0".repeat(40) + "; load faaaaaaaa9000; about(0, 3) = 40; "
+            + "about(0, 4) = 351",
             "units 0; load f!aaaaaaa0000; about(0, 5) = 0; drop() = 0; load faaaaaaaa0000; about(0, 5) = NONE");
     }
 
     private void aliveAndWeight() {
         String gap = "load faaaaaaa!1000; ";
-        bounds.says("A code is alive if each unit that has come is allowed, and valid if the row of all units that have come is valid"
+        bounds.says("A code is alive if each unit that has come is allowed, and valid if the row of all units that have come "
+            + "is valid"
             + " in it.", gap + "about(0, 1) = 1; about(0, 2) = 1; feed(7) = 1; about(0, 1) = 0; about(0, 2) = 0; feed(0) = 2; "
             + "about(0, 1) = 0; about(0, 2) = 0; back() = 1; about(0, 1) = 0; back() = 0; about(0, 1) = 1; about(0, 2) = 1",
-            gap + "units " + "0".repeat(39) + "; about(0, 1) = 1; feed(7) = 40; about(0, 1) = 0; about(0, 5) = 39; back() = 39; about(0, 1) = 1",
+            gap + "units " + "0".repeat(39) + "; about(0, 1) = 1; feed(7) = 40; about(0, 1) = 0; about(0, 5) = 39; "
+            + "back() = 39; about(0, 1) = 1",
             "load p7aaaaaaaa1000; units 07; about(0, 1) = 1; about(0, 2) = 0; feed(0) = 3; about(0, 2) = 1");
-        bounds.says("Its signs are the signs that ended, and its weight is the sum of the points of all pairs of signs that directly"
-            + " follow each other;", "load faaaaaaaa9000; about(0, 3) = 0; about(0, 4) = 0; feed(0) = 1; about(0, 3) = 1; about(0, 4) = 0; "
+        bounds.says("Its signs are the signs that ended, and its weight is the sum of the points of all pairs of signs that "
+            + "directly"
+            + " follow each other;", "load faaaaaaaa9000; about(0, 3) = 0; about(0, 4) = 0; feed(0) = 1; about(0, 3) = 1; "
+            + "about(0, 4) = 0; "
             + "feed(0) = 2; about(0, 3) = 2; about(0, 4) = 9; feed(0) = 3; about(0, 4) = 18; units " + "0".repeat(37)
             + "; about(0, 3) = 40; about(0, 4) = 351",
             "load p4aaaaaaaa9000; units 04; about(0, 3) = 1; about(0, 4) = 0; feed(4) = 3; about(0, 3) = 2; about(0, 4) = 9",
@@ -319,23 +341,27 @@ final class DescriptionBounds {
         String open = "load p7aaaaaaaa9000; ";
         String dead = "load faaaaaaa!9000; ";
         bounds.says("The judged code is the one with the greatest weight of all valid codes;",
-            one + two + "judged() = 0; feed(0) = 1; judged() = 0; feed(0) = 2; judged() = 1", two + one + "units 00; judged() = 0",
+            one + two + "judged() = 0; feed(0) = 1; judged() = 0; feed(0) = 2; judged() = 1",
+            two + one + "units 00; judged() = 0",
             one + two + one + "units 00; judged() = 1", open + one + "units 0007; about(0, 4) = 18; judged() = 1",
             dead + one + "units 0007; about(0, 4) = 18; judged() = 1", one + one + one + two + "units 00; judged() = 3");
         bounds.says("of several, the one with the lowest number;", one + one + one + one + "units 00; judged() = 0",
             dead + one + one + "units 007; judged() = 1", one + two + two + "units 00; judged() = 1");
         bounds.says("there is none if no code is valid.", "judged() = NONE", "units 0; judged() = NONE",
-            open + "feed(7) = 1; judged() = NONE; feed(7) = 2; judged() = 0", dead + open + "load t7" + SIXTEEN + "9000; feed(7) = 1; "
+            open + "feed(7) = 1; judged() = NONE; feed(7) = 2; judged() = 0", dead + open + "load t7" + SIXTEEN + "9000; "
+            + "feed(7) = 1; "
             + "judged() = NONE; back() = 0; judged() = 0", one + "drop() = 0; judged() = NONE");
         bounds.says("The ranking of all codes has the valid ones first, then the others that are alive, then the others;",
             dead + open + one + "units 0007; about(0, 4) = 18; about(1, 4) = 18; about(2, 4) = 3; rank(*) = 2 1 0 UNKNOWN; "
             + "about(0, 7) = 2; about(1, 7) = 1; about(2, 7) = 0", dead + open + "feed(7) = 1; rank(*) = 1 0 UNKNOWN",
             dead + one + "feed(7) = 1; rank(*) = 1 0 UNKNOWN");
-        bounds.says("within each of these groups, those with greater weight come first;", one + two + "units 00; rank(*) = 1 0 UNKNOWN",
+        bounds.says("within each of these groups, those with greater weight come first;", one + two + "units 00; "
+            + "rank(*) = 1 0 UNKNOWN",
             "load p7aaaaaaaa1000; load p7aaaaaaaa2000; units 007; rank(*) = 1 0 UNKNOWN",
             "load faaaaaaa!1000; load faaaaaaa!2000; units 007; rank(*) = 1 0 UNKNOWN");
         bounds.says("of several, those with lower numbers.", one + one + one + one + "rank(*) = 0 1 2 3 UNKNOWN; units 00; "
             + "rank(*) = 0 1 2 3 UNKNOWN", open + open + "feed(7) = 1; rank(*) = 0 1", dead + dead + "feed(7) = 1; rank(*) = 0 1",
-            dead + one + dead + one + "units 007; rank(*) = 1 3 0 2; about(0, 7) = 2; about(1, 7) = 0; about(2, 7) = 3; about(3, 7) = 1");
+            dead + one + dead + one + "units 007; rank(*) = 1 3 0 2; about(0, 7) = 2; about(1, 7) = 0; about(2, 7) = 3; "
+            + "about(3, 7) = 1");
     }
 }

@@ -5,7 +5,11 @@ import java.lang.reflect.Method;
 import java.lang.reflect.Modifier;
 import java.nio.file.Files;
 import java.nio.file.Path;
+import java.util.ArrayList;
 import java.util.HashSet;
+import java.util.LinkedHashMap;
+import java.util.List;
+import java.util.Map;
 import java.util.Set;
 import java.util.TreeSet;
 import java.util.regex.Matcher;
@@ -22,6 +26,8 @@ public final class LanguageTest {
     private static final Set<String> CONSTANTS = Set.of("NONE", "UNKNOWN", "OUTSIDE", "STATE", "FULL");
     private static final String FORBIDDEN =
         "\\b(throw|throws|try|catch|synchronized|assert|package|\\w+Exact|System\\.(?!arraycopy)|Thread|Random)\\b|->|::";
+
+    private static final int MOST_DEEP = 8;
 
     private final Check check = new Check("LanguageTest");
     private final Set<String> faceNames = new HashSet<>();
@@ -107,6 +113,11 @@ public final class LanguageTest {
 
     private void source(String text) {
         String code = text.replaceAll("(?s)/\\*.*?\\*/", "").replaceAll("//[^\n]*", "");
+        Map<String, String> bodies = bodies(code);
+        check.holds("the methods are found", bodies.keySet().containsAll(faceNames));
+        for (String method : bodies.keySet()) {
+            deepen(bodies, new ArrayList<>(), method);
+        }
         Matcher forbidden = Pattern.compile(FORBIDDEN).matcher(code);
         while (forbidden.find()) {
             check.holds("without " + forbidden.group(), false);
@@ -114,6 +125,43 @@ public final class LanguageTest {
         Matcher imported = Pattern.compile("import ([\\w.*]+);").matcher(code);
         while (imported.find()) {
             check.holds("import " + imported.group(1), imported.group(1).matches("java\\.util\\.(Arrays|ArrayList|List)"));
+        }
+    }
+
+    /** What stands in the methods, by their names; methods of the same name are taken together. */
+    private Map<String, String> bodies(String code) {
+        Map<String, String> bodies = new LinkedHashMap<>();
+        Matcher method = Pattern.compile("(?m)^ +(?:(?:public|private|static) )*[\\w\\[\\]]+ (\\w+)\\([^)]*\\) \\{$").matcher(code);
+        while (method.find()) {
+            int end = method.end();
+            for (int open = 1; open > 0; end++) {
+                open += code.charAt(end) == '{' ? 1 : code.charAt(end) == '}' ? -1 : 0;
+            }
+            String body = code.substring(method.end(), end);
+            check.holds(method.group(1) + " has at most sixty lines", body.lines().count() <= 60);
+            bodies.merge(method.group(1), body, String::concat);
+        }
+        return bodies;
+    }
+
+    /** Goes down every row of calls from the method on; none may come back to itself, or stand more than eight deep. */
+    private void deepen(Map<String, String> bodies, List<String> row, String method) {
+        check.holds(row + " does not call itself by " + method, !row.contains(method));
+        List<String> longer = new ArrayList<>(row);
+        longer.add(method);
+        check.holds(longer + " is at most " + MOST_DEEP + " deep", longer.size() <= MOST_DEEP);
+        if (row.contains(method) || longer.size() > MOST_DEEP) {
+            return;
+        }
+        Set<String> called = new TreeSet<>();
+        Matcher call = Pattern.compile("\\b(\\w+)\\(").matcher(bodies.get(method));
+        while (call.find()) {
+            if (bodies.containsKey(call.group(1))) {
+                called.add(call.group(1));
+            }
+        }
+        for (String next : called) {
+            deepen(bodies, longer, next);
         }
     }
 }

@@ -2,6 +2,8 @@ import java.math.BigInteger;
 
 /** The digest's list as the other calls answer it, reckoned without any bound and cut to a long at the end. */
 final class Listed {
+    private static final int LONGEST_TEXT = 22;
+
     private final CodeJudge judge;
     private BigInteger h = BigInteger.valueOf(1511);
 
@@ -38,7 +40,7 @@ final class Listed {
     }
 
     private void code(int code) {
-        for (int place = 0; judge.ink(code, place) != CodeJudge.UNKNOWN; place++) {
+        for (int place = 0; place < LONGEST_TEXT && judge.ink(code, place) != CodeJudge.UNKNOWN; place++) {
             add(judge.ink(code, place));
         }
         for (int what = 0; what <= 7; what++) {

@@ -2,7 +2,8 @@
 final class Refusals {
     private static final String FLAT = "faaaabbbb1234";
     private static final String TWO = "load " + FLAT + "; load p4ab!bab!b5678; open(5) = 0; units 041; page fa; ";
-    private static final String FOUR = "load " + FLAT + "; load p4ab!bab!b5678; load cabcdef+!9876; load t7aabb!!aabbbbaaab9009; units 04; ";
+    private static final String FOUR = "load " + FLAT + "; load p4ab!bab!b5678; load cabcdef+!9876; "
+            + "load t7aabb!!aabbbbaaab9009; units 04; ";
     private static final String FULL_STREAM = "load " + FLAT + "; open(3) = 0; units 041; page 70; ";
     private static final String FULL_PAGE = "load " + FLAT + "; units 041; page " + "7".repeat(40) + "; ";
     private static final String NO_DIVISION = "load faaaaaaa!1000; units 07; page 12; ";
@@ -27,20 +28,25 @@ final class Refusals {
     }
 
     private void codes() {
-        bounds.says("UNKNOWN (-101): there is no such code, place or piece.", "ink(0, 0) = -101; unit(0) = -101; piece(0, 0) = -101; rank(0) = -101");
+        bounds.says("UNKNOWN (-101): there is no such code, place or piece.", "ink(0, 0) = -101; unit(0) = -101; "
+            + "piece(0, 0) = -101; rank(0) = -101");
         bounds.due("UNKNOWN", CodeJudge.UNKNOWN, -101);
-        bounds.says("OUTSIDE (-102): another argument is out of its range.", "feed(8) = -102; open(0) = -102; letter(31) = -102; count(8) = -102; cuts(2) = -102");
+        bounds.says("OUTSIDE (-102): another argument is out of its range.", "feed(8) = -102; open(0) = -102; "
+            + "letter(31) = -102; count(8) = -102; cuts(2) = -102");
         bounds.due("OUTSIDE", CodeJudge.OUTSIDE, -102);
-        bounds.says("STATE (-103): the call is not possible, as told there.", "code() = -103; drop() = -103; back() = -103; page x; feeds() = -103; feed(0) = 1; cuts(0) = -103");
+        bounds.says("STATE (-103): the call is not possible, as told there.", "code() = -103; drop() = -103; back() = -103; "
+            + "page x; feeds() = -103; feed(0) = 1; cuts(0) = -103");
         bounds.due("STATE", CodeJudge.STATE, -103);
-        bounds.says("FULL (-104): there is no room.", "page " + "0".repeat(40) + "; letter(48) = -104; feeds() = 40; feed(0) = -104; page 0; feeds() = -104",
+        bounds.says("FULL (-104): there is no room.", "page " + "0".repeat(40) + "; letter(48) = -104; feeds() = 40; "
+            + "feed(0) = -104; page 0; feeds() = -104",
             FOUR + "page " + FLAT + "; code() = -104");
         bounds.due("FULL", CodeJudge.FULL, -104);
     }
 
     /** Where two errors of a method apply at once, the one that is listed first is returned. */
     private void orders() {
-        bounds.says("Each method lists its error codes in the order in which they are checked, and returns the first one that applies.",
+        bounds.says("Each method lists its error codes in the order in which they are checked, and returns the first one that "
+            + "applies.",
             FULL_PAGE + "letter(48) = FULL; letter(31) = OUTSIDE; letter(127) = OUTSIDE",
             FOUR + "code() = STATE; page " + FLAT + "; code() = FULL; letter(48) = 14; code() = STATE",
             FULL_STREAM + "feed(7) = FULL; feed(8) = OUTSIDE; feed(-1) = OUTSIDE",
@@ -50,13 +56,15 @@ final class Refusals {
             TWO + "pairs(2, 0) = UNKNOWN; pairs(0, 4) = OUTSIDE; pairs(2, 4) = UNKNOWN; pairs(-1, -1) = UNKNOWN",
             TWO + "rows(2, 0) = UNKNOWN; rows(0, 10) = OUTSIDE; rows(2, 10) = UNKNOWN; rows(-1, -1) = UNKNOWN",
             NO_DIVISION + "cuts(0) = STATE; cuts(2) = OUTSIDE; cuts(-1) = OUTSIDE",
-            NO_DIVISION + "piece(0, 0) = UNKNOWN; piece(0, 3) = UNKNOWN", PIECES + "piece(2, 0) = UNKNOWN; piece(1, 3) = OUTSIDE; piece(2, 3) = UNKNOWN; piece(-1, -1) = UNKNOWN",
+            NO_DIVISION + "piece(0, 0) = UNKNOWN; piece(0, 3) = UNKNOWN", PIECES + "piece(2, 0) = UNKNOWN; "
+            + "piece(1, 3) = OUTSIDE; piece(2, 3) = UNKNOWN; piece(-1, -1) = UNKNOWN",
             "piece(0, 3) = UNKNOWN");
     }
 
     private void none() {
         bounds.says("NONE (-1) is not an error; it is returned only if no error applies.", "judged() = -1",
-            TWO + "about(0, 5) = -1; about(2, 5) = UNKNOWN; about(0, 6) = -1; about(2, 6) = UNKNOWN; apart(0, 0) = -1; apart(0, 2) = UNKNOWN; apart(2, 0) = UNKNOWN; apart(2, 2) = UNKNOWN");
+            TWO + "about(0, 5) = -1; about(2, 5) = UNKNOWN; about(0, 6) = -1; about(2, 6) = UNKNOWN; apart(0, 0) = -1; "
+            + "apart(0, 2) = UNKNOWN; apart(2, 0) = UNKNOWN; apart(2, 2) = UNKNOWN");
         bounds.due("NONE", CodeJudge.NONE, -1);
     }
 
@@ -158,6 +166,7 @@ final class Refusals {
     }
 
     private void same(String refused, CodeJudge judge, CodeJudge twin, String method, int... numbers) {
-        bounds.due(Script.told(method, numbers) + " behind the refused " + refused, Calls.answer(judge, method, numbers), Calls.answer(twin, method, numbers));
+        bounds.due(Script.told(method, numbers) + " behind the refused " + refused, Calls.answer(judge, method, numbers),
+            Calls.answer(twin, method, numbers));
     }
 }
