@@ -15,8 +15,6 @@ public final class AgainstPlainTest {
     private CodeJudge judge;
     private PlainJudge plain;
     private String run;
-    private int sureAsked = 0;
-    private int sureTried = 0;
 
     private AgainstPlainTest(Check check, long seed) {
         this.check = check;
@@ -31,8 +29,6 @@ public final class AgainstPlainTest {
         for (int i = 0; i < runs && check.wrong() < 20; i++) {
             test.oneRun(i);
         }
-        System.out.println("about(code, 6): " + test.sureTried + " of " + test.sureAsked + " could be tried");
-        check.holds("most of about(code, 6) tried", test.sureTried * 2 > test.sureAsked);
         check.end();
     }
 
@@ -40,7 +36,7 @@ public final class AgainstPlainTest {
         judge = new CodeJudge();
         plain = new PlainJudge();
         run = "run " + number + ":";
-        // few units leave few rows to try; long streams come too, for what needs no trying
+        // few units leave few rows to try; long streams come too, where being sure is reckoned
         call("open", random.nextInt(4) == 0 ? 1 + random.nextInt(40) : 1 + random.nextInt(7));
         for (int i = random.nextInt(4); i >= 0; i--) {
             addCode();
@@ -48,7 +44,7 @@ public final class AgainstPlainTest {
         for (int i = 0; i < CALLS; i++) {
             oneStep();
         }
-        digest();
+        call("digest");
     }
 
     private void oneStep() {
@@ -70,7 +66,7 @@ public final class AgainstPlainTest {
         } else if (dice < 44) {
             call("letter", random.nextInt(3) == 0 ? number(130) : 32 + random.nextInt(95));
         } else if (dice < 46) {
-            digest();
+            call("digest");
         } else {
             ask(ASKING[random.nextInt(ASKING.length)]);
         }
@@ -115,26 +111,10 @@ public final class AgainstPlainTest {
         String told = Script.told(method, numbers);
         long due = plain.answer(method, numbers);
         long got = Calls.answer(judge, method, numbers);
-        boolean sure = method.equals("about") && numbers[1] == 6 && due != PlainJudge.UNKNOWN;
-        if (sure) {
-            sureAsked++;
-        }
-        if (due != PlainJudge.TOO_MANY) {
-            sureTried += sure ? 1 : 0;
-            check.due(run + " " + told, got, due);
-        }
+        check.due(run + " " + told, got, due);
         if (check.wrong() > 0) {
             run += " " + told;
         }
-    }
-
-    private void digest() {
-        int[] sure = new int[plain.codeCount()];
-        for (int code = 0; code < sure.length; code++) {
-            call("about", code, 6);
-            sure[code] = judge.about(code, 6);
-        }
-        check.due(run + " digest()", judge.digest(), plain.digest(sure));
     }
 
     private void type(String text) {

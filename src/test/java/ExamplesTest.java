@@ -1,3 +1,11 @@
+import java.io.IOException;
+import java.nio.file.Files;
+import java.nio.file.Path;
+import java.util.List;
+import java.util.regex.MatchResult;
+import java.util.regex.Pattern;
+import java.util.stream.Collectors;
+
 /** The document's four examples, each call with the answer that stands behind it. */
 public final class ExamplesTest {
     private static final String[] EXAMPLES = {
@@ -15,11 +23,18 @@ public final class ExamplesTest {
             + "letter(57) = 12; letter(57) = 13; code() = 0; rows(0, 2) = 36",
     };
 
-    public static void main(String[] args) {
+    public static void main(String[] args) throws IOException {
         Check check = new Check("ExamplesTest");
         for (int i = 0; i < EXAMPLES.length; i++) {
             Script.play(check, "example " + (i + 1), EXAMPLES[i]);
         }
+        check.holds("these are the document's examples", inDocument().equals(List.of(EXAMPLES)));
         check.end();
+    }
+
+    private static List<String> inDocument() throws IOException {
+        String document = Files.readString(Path.of("../shared/DOC.md"));
+        return Pattern.compile("(?m)^\\d+\\. [^:]*: (.*)\\.$").matcher(document).results()
+            .map((MatchResult example) -> example.group(1)).collect(Collectors.toList());
     }
 }

@@ -49,7 +49,7 @@ public final class LanguageTest {
         test.check.end();
     }
 
-    private void face() {
+    private void face() throws IOException {
         check.holds("public and final", (CodeJudge.class.getModifiers() & (Modifier.PUBLIC | Modifier.FINAL)) == 17);
         Constructor<?>[] makers = CodeJudge.class.getDeclaredConstructors();
         check.holds("one public constructor without arguments", makers.length == 1
@@ -62,11 +62,23 @@ public final class LanguageTest {
             }
         }
         check.holds("the face is " + found, found.equals(new TreeSet<>(Set.of(FACE))));
+        check.holds("the document's face is " + faceOfDocument(), found.equals(faceOfDocument()));
         for (Method method : CodeJudge.class.getDeclaredMethods()) {
             boolean isPrivate = Modifier.isPrivate(method.getModifiers());
             check.holds(method + " is of the face or private", isPrivate || Modifier.isPublic(method.getModifiers()));
             check.holds(method + " has a name of its own", !isPrivate || !faceNames.contains(method.getName()));
         }
+    }
+
+    /** The methods as the document's section "The public face" lists them, without the names of their arguments. */
+    private static Set<String> faceOfDocument() throws IOException {
+        String document = Files.readString(Path.of("../shared/DOC.md"));
+        Set<String> listed = new TreeSet<>();
+        Matcher method = Pattern.compile("(?m)^ +public ((?:int|long) \\w+\\(.*\\));$").matcher(document);
+        while (method.find()) {
+            listed.add(method.group(1).replaceAll("int \\w+(?=[,)])", "int"));
+        }
+        return listed;
     }
 
     private static String told(Method method) {

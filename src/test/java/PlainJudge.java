@@ -10,12 +10,12 @@ import java.util.regex.Pattern;
 /**
  * The document told once more, in the plainest way and without any of the program's tables:
  * each row is read from its first unit on, and what all rows have is found by trying rows.
- * Rows after which nothing can differ any more are tried once.
+ * Rows after which nothing can differ any more are tried once. Where that leaves too many,
+ * Foresight tells whether a code is sure; where it does not, both must tell the same.
  */
 final class PlainJudge {
     static final int NONE = -1, UNKNOWN = -101, OUTSIDE = -102, STATE = -103, FULL = -104;
-    /** What about(code, 6) answers here if there are too many rows to try. */
-    static final int TOO_MANY = -999;
+    private static final int MOST_UNITS_TRIED = 6;
     private static final int MOST_ROWS_TRIED = 1500;
 
     private static final Pattern TEXT = Pattern.compile(
@@ -145,7 +145,7 @@ final class PlainJudge {
 
     private static final String[] TWO = {"aa", "ab", "ba", "bb"};
 
-    private static int weight(String text, Told told) {
+    static int weight(String text, Told told) {
         int weight = 0;
         for (int sorts = 0; sorts < 4; sorts++) {
             weight += told.pairs(TWO[sorts]) * pointsOf(text, sorts);
@@ -327,16 +327,25 @@ final class PlainJudge {
     }
 
     private int firstSure(int code) {
+        Foresight foresight = new Foresight(codes);
         for (int n = 0; n <= stream.length(); n++) {
-            int sure = sureAt(code, n);
-            if (sure != 0) {
-                return sure == 1 ? n : TOO_MANY;
+            boolean sure = foresight.isSure(code, stream.substring(0, n), length - n);
+            List<String> rows = fewRows(n);
+            if (rows != null && isSureAmong(code, rows) != sure) {
+                throw new IllegalStateException("Foresight tells otherwise: " + codes + " " + code + " " + stream + " " + n);
+            }
+            if (sure) {
+                return n;
             }
         }
         return NONE;
     }
 
-    private int sureAt(int code, int n) {
+    /** The rows that begin with the first n units, one of each that matters; null if there are too many. */
+    private List<String> fewRows(int n) {
+        if (length - n > MOST_UNITS_TRIED) {
+            return null;
+        }
         Map<String, String> rows = new HashMap<>();
         rows.put("", stream.substring(0, n));
         for (int more = n; more < length; more++) {
@@ -348,19 +357,23 @@ final class PlainJudge {
             }
             rows = longer;
             if (rows.size() > MOST_ROWS_TRIED) {
-                return TOO_MANY;
+                return null;
             }
         }
+        return new ArrayList<>(rows.values());
+    }
+
+    private boolean isSureAmong(int code, List<String> rows) {
         boolean some = false;
-        for (String row : rows.values()) {
+        for (String row : rows) {
             if (read(codes.get(code), row).valid()) {
                 some = true;
                 if (judgedOf(row) != code) {
-                    return 0;
+                    return false;
                 }
             }
         }
-        return some ? 1 : 0;
+        return some;
     }
 
     private String whatMatters(String row) {
@@ -563,13 +576,12 @@ final class PlainJudge {
         return what < 0 || what > 7 ? OUTSIDE : counts[what];
     }
 
-    /** All values of the digest's list but those of about(code, 6), for which the given ones are taken. */
-    long digest(int[] sure) {
+    long digest() {
         List<Integer> list = new ArrayList<>();
         for (int code = 0; code < codes.size(); code++) {
             codes.get(code).chars().forEach(list::add);
             for (int what = 0; what <= 7; what++) {
-                list.add(what == 6 ? sure[code] : about(code, what));
+                list.add(about(code, what));
             }
             for (int sorts = 0; sorts <= 3; sorts++) {
                 list.add(pairs(code, sorts));
@@ -600,21 +612,6 @@ final class PlainJudge {
             h = 31 * h + v;
         }
         return h;
-    }
-
-    private long digest() {
-        int[] sure = new int[codes.size()];
-        for (int code = 0; code < sure.length; code++) {
-            sure[code] = firstSure(code);
-            if (sure[code] == TOO_MANY) {
-                return TOO_MANY;
-            }
-        }
-        return digest(sure);
-    }
-
-    int codeCount() {
-        return codes.size();
     }
 
     long answer(String method, int... n) {

@@ -21,20 +21,18 @@ final class Script {
         long answer(String method, int... numbers);
     }
 
-    /** How a run is played: as it stands, with a look at the state around each refused call, or on the model. */
-    private enum Way { PLAIN, WATCHED, MODEL }
-
     private final Check check;
     private final String name;
     private final Answering judge;
-    private final Way way;
+    /** Whether the state is looked at before and behind each refused call. */
+    private final boolean watched;
     private int calls = 0;
 
-    private Script(Check check, String name, Answering judge, Way way) {
+    private Script(Check check, String name, Answering judge, boolean watched) {
         this.check = check;
         this.name = name;
         this.judge = judge;
-        this.way = way;
+        this.watched = watched;
     }
 
     /**
@@ -44,13 +42,13 @@ final class Script {
     static void play(Check check, String name, String run) {
         begin(check, name, new CodeJudge(), run);
         CodeJudge looked = new CodeJudge();
-        new Script(check, name + ", watched", (method, n) -> Calls.answer(looked, method, n), Way.WATCHED).rows(run);
-        new Script(check, name + ", plain model", new PlainJudge()::answer, Way.MODEL).rows(run);
+        new Script(check, name + ", watched", (method, n) -> Calls.answer(looked, method, n), true).rows(run);
+        new Script(check, name + ", plain model", new PlainJudge()::answer, false).rows(run);
     }
 
     /** Plays the run on this object, as a beginning for what a test does with it. */
     static void begin(Check check, String name, CodeJudge judge, String run) {
-        new Script(check, name, (method, n) -> Calls.answer(judge, method, n), Way.PLAIN).rows(run);
+        new Script(check, name, (method, n) -> Calls.answer(judge, method, n), false).rows(run);
     }
 
     private void rows(String run) {
@@ -129,13 +127,10 @@ final class Script {
     }
 
     private void call(long due, String method, int... numbers) {
-        boolean looked = way == Way.WATCHED && isError(due);
+        boolean looked = watched && isError(due);
         long before = looked ? ask("digest") : 0;
         long got = ask(method, numbers);
-        boolean tooMany = way == Way.MODEL && got == PlainJudge.TOO_MANY;
-        if (!tooMany) {
-            check.due(name + ": " + told(method, numbers), got, due);
-        }
+        check.due(name + ": " + told(method, numbers), got, due);
         if (looked) {
             check.due(name + ": digest() behind the refused " + told(method, numbers), ask("digest"), before);
         }
